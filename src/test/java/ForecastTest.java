@@ -8,6 +8,8 @@ public final class ForecastTest {
         longestRamp(check);
         nothingChanges(check);
         count(check);
+        countOfEightMotors(check);
+        countAfterUndo(check);
         check.end();
     }
 
@@ -128,6 +130,13 @@ public final class ForecastTest {
             one.addMotor(10, 30, 2, limit);
             check.due("longestRamp at " + limit, one.longestRamp(0), plainLongestRamp(20, limit));
         }
+        // Peaks of 30 A take in 112 in 2 seconds and 140 in 3.
+        for (int limit = 110; limit <= 141; limit++) {
+            StarterBay one = new StarterBay();
+            one.addMotor(10, 30, 3, limit);
+            int due = limit < 112 ? Bays.N : limit < 140 ? 2 : 3;
+            check.due("longestRamp at " + limit, Math.min(3, one.longestRamp(0)), due);
+        }
         notLongerByCredit(check);
         negativeCredit(check);
     }
@@ -222,5 +231,41 @@ public final class ForecastTest {
         bay.pass(3);
         check.due("count(9)", bay.count(9), 0);
         check.due("count(10)", bay.count(10), 2);
+    }
+
+    private static void countOfEightMotors(Check check) {
+        check.part("promise 27, eight motors");
+        StarterBay bay = new StarterBay();
+        for (int number = 0; number < 8; number++) {
+            bay.addMotor(10, 2, 2, 1000);
+            bay.request(number);
+        }
+        int[] due = {8, 8, 0, 0, 0};
+        for (int what = 0; what < due.length; what++) {
+            check.due("count(" + what + ")", bay.count(what), due[what]);
+        }
+        check.due("pass(8)", bay.pass(8), 8);
+        bay.pass(1);
+        check.due("count(3)", bay.count(3), 8);
+        check.due("count(14)", bay.count(14), 80);
+        // Each has taken in 50, and 10 for each second in which it ran: 7 down to 0.
+        check.due("count(11)", bay.count(11), 8 * 50 + 10 * 28);
+        check.due("count(13)", bay.count(13), bay.count(11) - bay.count(12));
+        check.due("queue(0)", bay.queue(0), Bays.N);
+    }
+
+    private static void countAfterUndo(Check check) {
+        check.part("promise 27, after undo");
+        StarterBay bay = new StarterBay();
+        bay.keep();
+        bay.addMotor(10, 2, 2, 1000);
+        bay.request(0);
+        bay.pass(1);
+        bay.restore();
+        for (int what = 0; what <= 15; what++) {
+            check.due("count(" + what + ")", bay.count(what), what == 6 ? 500 : 0);
+        }
+        check.due("motor(0, 0)", bay.motor(0, 0), Bays.U);
+        check.due("queue(0)", bay.queue(0), Bays.N);
     }
 }

@@ -140,6 +140,75 @@ public final class HistoryTest {
         check.due("restore()", bay.restore(), 3);
         check.due("restore() again", bay.restore(), 3);
         lossSecondsAreKept(check);
+        anotherMotor(check);
+        events(check);
+        waitingAndRamp(check);
+    }
+
+    // The motor 0 of the snapshot is another one than the motor 0 that was added since.
+    private static void anotherMotor(Check check) {
+        StarterBay bay = new StarterBay();
+        bay.addMotor(10, 3, 2, 1000);
+        bay.keep();
+        bay.undo();
+        bay.addMotor(20, 5, 4, 2000);
+        bay.setNeed(0, 1);
+        bay.restore();
+        int[] due = {10, 3, 2, 1000, 5};
+        for (int what = 0; what < due.length; what++) {
+            check.due("motor(0, " + what + ")", bay.motor(0, what), due[what]);
+        }
+        check.due("startHeat(0)", bay.startHeat(0), 63);
+        bay.undo();
+        check.due("motor(0, 0)", bay.motor(0, 0), 20);
+        check.due("motor(0, 4)", bay.motor(0, 4), 1);
+    }
+
+    private static void events(Check check) {
+        StarterBay bay = Bays.tripped();
+        bay.addMotor(10, 2, 2, 1000);
+        bay.keep();
+        for (int round = 0; round < 10; round++) {
+            bay.pass(1);
+            bay.request(1);
+            bay.stop(1);
+        }
+        check.due("event(9, 2)", bay.event(9, 2), 3);
+        bay.restore();
+        int[] due = {1, 0, 5};
+        for (int what = 0; what < 3; what++) {
+            check.due("event(0, " + what + ")", bay.event(0, what), due[what]);
+        }
+        check.due("event(2, 0)", bay.event(2, 0), Bays.N);
+    }
+
+    private static void waitingAndRamp(Check check) {
+        StarterBay bay = new StarterBay();
+        bay.addMotor(10, 9, 2, 1000);
+        bay.addMotor(10, 9, 2, 1000);
+        bay.losePhases(1, 1);
+        bay.request(0);
+        bay.pass(2);
+        bay.request(1);
+        bay.pass(3);
+        bay.keep();
+        bay.stop(0);
+        bay.stop(1);
+        bay.request(0);
+        bay.request(1);
+        bay.pass(1);
+        check.due("motor(0, 8)", bay.motor(0, 8), 1);
+        check.due("motor(1, 9)", bay.motor(1, 9), 1);
+        bay.restore();
+        check.due("motor(0, 8)", bay.motor(0, 8), 5);
+        check.due("motor(1, 9)", bay.motor(1, 9), 3);
+        bay.pass(1);
+        bay.losePhases(0, 1);
+        bay.keep();
+        bay.losePhases(0, 0);
+        bay.reset(0);
+        bay.restore();
+        check.due("motor(0, 11)", bay.motor(0, 11), 4);
     }
 
     // The seconds of a loss that have been counted belong to the state.

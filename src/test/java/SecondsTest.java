@@ -93,6 +93,21 @@ public final class SecondsTest {
         check.due("stopped with the fan", bay.motor(0, 6), 4762 - 238);
         check.due("account(0, 4)", bay.account(0, 4), 2);
         lossIsRoundedAheadOfDoubling(check);
+        longRun(check);
+    }
+
+    private static void longRun(Check check) {
+        StarterBay bay = new StarterBay();
+        bay.addMotor(90, 2, 2, 60000);
+        bay.request(0);
+        bay.pass(2);
+        int heat = bay.motor(0, 6);
+        for (int second = 0; second < 100; second++) {
+            heat += 810;
+            heat -= heat * 40 / 1000;
+            bay.pass(1);
+            check.due("motor(0, 6) in a long run", bay.motor(0, 6), heat);
+        }
     }
 
     // 5 A run with 7 A then, which is 4 rounded down, and 8 in all; not 9.
