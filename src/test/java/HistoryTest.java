@@ -143,6 +143,7 @@ public final class HistoryTest {
         anotherMotor(check);
         events(check);
         waitingAndRamp(check);
+        reasonOfTrip(check);
     }
 
     // The motor 0 of the snapshot is another one than the motor 0 that was added since.
@@ -202,11 +203,20 @@ public final class HistoryTest {
         bay.restore();
         check.due("motor(0, 8)", bay.motor(0, 8), 5);
         check.due("motor(1, 9)", bay.motor(1, 9), 3);
+    }
+
+    private static void reasonOfTrip(Check check) {
+        StarterBay bay = new StarterBay();
+        bay.addMotor(10, 2, 2, 104);
+        bay.request(0);
         bay.pass(1);
         bay.losePhases(0, 1);
         bay.keep();
         bay.losePhases(0, 0);
         bay.reset(0);
+        bay.request(0);
+        bay.pass(20);
+        check.due("motor(0, 11)", bay.motor(0, 11), 2);
         bay.restore();
         check.due("motor(0, 11)", bay.motor(0, 11), 4);
     }
