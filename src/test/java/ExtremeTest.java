@@ -4,8 +4,10 @@ public final class ExtremeTest {
         Integer.MAX_VALUE - 1, Integer.MAX_VALUE};
 
     public static void main(String[] args) {
-        Check check = new Check();
-        check.part("far arguments");
+        Check.all(ExtremeTest.class);
+    }
+
+    static void farArguments(Check check) {
         all(check, new StarterBay());
         all(check, Bays.running(1000));
         all(check, Bays.tripped());
@@ -16,7 +18,6 @@ public final class ExtremeTest {
         }
         Bays.read(full, "0 start 7;9999 lose 7 7");
         all(check, full);
-        check.end();
     }
 
     private static void all(Check check, StarterBay bay) {

@@ -6,10 +6,12 @@ import java.util.regex.Pattern;
 
 /** Those rules of LANGUAGE.md that the text of the program tells by itself. */
 public final class LanguageTest {
-    public static void main(String[] args) throws IOException {
-        Check check = new Check();
+    public static void main(String[] args) {
+        Check.all(LanguageTest.class);
+    }
+
+    static void rulesThatTheTextTells(Check check) throws IOException {
         String source = Files.readString(Path.of("src/main/java/StarterBay.java"));
-        check.part("LANGUAGE.md");
         check.yes("the source has the signs 1 to 127 alone", source.chars().allMatch(sign -> sign > 0 && sign < 128));
         String bare = withoutCommentsAndTexts(source);
         String[] forbidden = {"\\b(throw|throws|try|catch|finally|synchronized|assert|import|package|volatile|native)\\b",
@@ -22,7 +24,6 @@ public final class LanguageTest {
         }
         checkStaticFields(check, bare);
         checkLengths(check, bare);
-        check.end();
     }
 
     private static String withoutCommentsAndTexts(String source) {

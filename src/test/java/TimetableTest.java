@@ -1,236 +1,129 @@
-/** Promises 11 to 13, and how items are carried out. */
+/** Promises 11 to 13. */
 public final class TimetableTest {
     public static void main(String[] args) {
-        Check check = new Check();
-        type(check);
-        clearText(check);
-        right(check);
-        faults(check);
-        faultChangesNothing(check);
-        fullText(check);
-        taking(check);
-        carryingOut(check);
-        refusedItems(check);
-        check.end();
+        Check.all(TimetableTest.class);
     }
 
-    private static void type(Check check) {
-        check.part("promise 11");
+    @Sentence(of = "Promise 11", says = "Types a character behind the text.")
+    static void typesBehindTheText(Check check) {
         StarterBay bay = new StarterBay();
-        char[] odd = {(char) 0, ' ', ';', '\n', (char) 255, (char) 8364, (char) 65535};
-        for (int place = 0; place < odd.length; place++) {
-            check.due("type", bay.type(odd[place]), place + 1);
+        String text = "0 fan 1;0 fan 0";
+        int[] due = {-101, -102, -102, -102, -105, -106, 1, -108, -109, -110, -110, -110, -113, -114, 2};
+        for (int place = 0; place < text.length(); place++) {
+            check.due("type", bay.type(text.charAt(place)), place + 1);
+            check.due("readTimetable() behind the character " + place, bay.readTimetable(), due[place]);
         }
-        for (int length = odd.length + 1; length <= 80; length++) {
-            check.due("type", bay.type('0'), length);
+        check.due("type('x')", bay.type('x'), 16);
+        check.due("readTimetable()", bay.readTimetable(), -114);
+    }
+
+    @Sentence(of = "Promise 11", says = "`character`: any character")
+    static void anyCharacter(Check check) {
+        char[] odd = {(char) 0, ' ', ';', '\n', '\r', (char) 127, (char) 128, (char) 255, (char) 256, (char) 8364, (char) 55357,
+            (char) 56832, (char) 65535};
+        for (char one : odd) {
+            StarterBay bay = new StarterBay();
+            check.due("type of " + (int) one, bay.type(one), 1);
+            check.due("readTimetable() of it alone", bay.readTimetable(), -100);
+            bay.clearText();
+            Bays.typeAll(bay, "0 fan 1");
+            check.due("type of " + (int) one, bay.type(one), 8);
+            check.due("readTimetable() of it at the end", bay.readTimetable(), one == ' ' ? -107 : one == ';' ? -108 : -106);
+            check.due("count(8)", bay.count(8), 0);
+        }
+    }
+
+    @Sentence(of = "Promise 11",
+            says = "Returns the length of the text then; REFUSED for the reason 5 if it has 80 characters.")
+    static void refusedAtEighty(Check check) {
+        StarterBay bay = new StarterBay();
+        for (int length = 1; length <= 80; length++) {
+            check.due("type('0')", bay.type('0'), length);
         }
         check.due("count(8)", bay.count(8), 0);
         check.due("type('0') with 80", bay.type('0'), Bays.R);
+        check.due("type('0') with 80, again", bay.type('0'), Bays.R);
         check.due("count(8)", bay.count(8), 5);
         check.due("count(17)", bay.count(17), 80);
         check.due("count(16): it is no act", bay.count(16), 0);
-        check.due("readTimetable()", bay.readTimetable(), -100);
+        check.due("clearText()", bay.clearText(), 80);
+        check.due("type('0'): there is room again", bay.type('0'), 1);
     }
 
-    private static void clearText(Check check) {
-        check.part("promise 12");
-        StarterBay bay = new StarterBay();
-        check.due("clearText()", bay.clearText(), 0);
-        Bays.typeAll(bay, "0 fan 1");
-        check.due("clearText()", bay.clearText(), 7);
-        check.due("count(17)", bay.count(17), 0);
-        check.due("readTimetable()", bay.readTimetable(), -100);
-        check.due("type('9')", bay.type('9'), 1);
-        check.due("readTimetable()", bay.readTimetable(), -101);
-        check.due("count(16)", bay.count(16), 0);
-    }
-
-    private static void right(Check check) {
-        check.part("promise 13, without a fault");
-        String[] texts = {"0 start 0", "9999 stop 7", "10 lose 7 7", "100 reset 3", "7 fan 0", "7 fan 1",
-            "0 fan 1;0 fan 0", "5 start 1;5 stop 2;60 lose 0 0;600 reset 7;6000 fan 1", "9 fan 1;10 fan 0"};
-        int[] items = {1, 1, 1, 1, 1, 1, 2, 5, 2};
-        for (int place = 0; place < texts.length; place++) {
+    @Sentence(of = "Promise 12", says = {"Empties the text.", "Returns the length that it had."})
+    static void emptiesTheText(Check check) {
+        int[] lengths = {0, 1, 7, 79, 80};
+        for (int length : lengths) {
             StarterBay bay = new StarterBay();
-            check.due(texts[place], Bays.read(bay, texts[place]), items[place]);
-            check.due("count(9)", bay.count(9), items[place]);
-            check.due("count(17)", bay.count(17), texts[place].length());
-            check.due("count(16)", bay.count(16), 1);
+            for (int place = 0; place < length; place++) {
+                bay.type('9');
+            }
+            check.due("clearText() of " + length, bay.clearText(), length);
+            check.due("count(17)", bay.count(17), 0);
+            check.due("clearText() again", bay.clearText(), 0);
+            check.due("readTimetable(): nothing of it is left", bay.readTimetable(), -100);
+            check.due("type('9')", bay.type('9'), 1);
+            check.due("readTimetable()", bay.readTimetable(), -101);
+            check.due("count(16): it is no act", bay.count(16), 0);
         }
+        StarterBay read = new StarterBay();
+        Bays.read(read, "4 fan 1;5 fan 0");
+        read.clearText();
+        check.due("count(9): what was read is left", read.count(9), 2);
     }
 
-    private static void faults(Check check) {
-        check.part("promise 13, faults");
-        fault(check, "", 0);
-        fault(check, " ", 0);
-        fault(check, ";", 0);
-        fault(check, " 0 start 0", 0);
-        fault(check, "0", 1);
-        fault(check, "0 ", 2);
-        fault(check, "0;", 1);
-        fault(check, "0  start 0", 2);
-        fault(check, "0 ;start 0", 2);
-        fault(check, "0 start", 7);
-        fault(check, "0 start ", 8);
-        fault(check, "0 start;0", 7);
-        fault(check, "0 start  0", 8);
-        fault(check, "0 start ;", 8);
-        fault(check, "0 start 0 ", 9);
-        fault(check, "0 start 0 1", 9);
-        fault(check, "0 start 0;", 10);
-        fault(check, "0 start 0;;", 10);
-        fault(check, "0 start 0; 1 stop 0", 10);
-        fault(check, "0 sta", 2);
-        fault(check, "0 starts 0", 2);
-        fault(check, "0 Start 0", 2);
-        fault(check, "0 tart 0", 2);
-        fault(check, "0 fa;", 2);
-        fault(check, "0 start 8", 8);
-        fault(check, "0 start 9", 8);
-        fault(check, "0 start 00", 8);
-        fault(check, "0 start 1x", 8);
-        fault(check, "0 start -1", 8);
-        fault(check, "0 start a", 8);
-        fault(check, "0 stop 8", 7);
-        fault(check, "0 reset 8", 8);
-        fault(check, "0 lose 8 0", 7);
-        fault(check, "0 lose 0", 8);
-        fault(check, "0 lose 0 ", 9);
-        fault(check, "0 lose 0;", 8);
-        fault(check, "0 lose 0  1", 9);
-        fault(check, "0 lose 0 8", 9);
-        fault(check, "0 lose 0 11", 9);
-        fault(check, "0 lose 0 1 ", 10);
-        fault(check, "0 lose 0 1 1", 10);
-        fault(check, "0 lose 0 1;", 11);
-        fault(check, "0 fan 2", 6);
-        fault(check, "0 fan 1 1", 7);
-        fault(check, "0 fan 10", 6);
-        fault(check, "00 fan 1", 0);
-        fault(check, "01 fan 1", 0);
-        fault(check, "10000 fan 1", 0);
-        fault(check, "99999999999 fan 1", 0);
-        fault(check, "-1 fan 1", 0);
-        fault(check, "+1 fan 1", 0);
-        fault(check, "1a fan 1", 0);
-        fault(check, "x", 0);
-        fault(check, "0\tfan 1", 0);
-        fault(check, "0 fan\t1", 2);
-        fault(check, "0 fan 1\n", 6);
-        fault(check, (char) 65296 + " fan 1", 0);
-        fault(check, "0 fan " + (char) 1633, 6);
-        fault(check, "10 fan 1;9 fan 0", 9);
-        fault(check, "10 fan 1;10 fan 0;2 fan 1", 18);
-        fault(check, "10 fan 1;010 fan 0", 9);
-        fault(check, "10 fan 1;9", 9);
-    }
-
-    private static void fault(Check check, String text, int place) {
-        StarterBay bay = new StarterBay();
-        check.due("\"" + text + "\"", Bays.read(bay, text), -100 - place);
-        check.due("count(9) of \"" + text + "\"", bay.count(9), 0);
-        check.due("count(16) of \"" + text + "\"", bay.count(16), 0);
-        check.due("count(8) of \"" + text + "\"", bay.count(8), 0);
-    }
-
-    private static void faultChangesNothing(Check check) {
-        check.part("promise 13, after a fault");
-        StarterBay bay = new StarterBay();
-        Bays.read(bay, "3 fan 1;4 stop 2");
-        check.due("readTimetable() with a fault at its end", Bays.read(bay, "7 start 5;8 start 6;9 start"), -127);
-        check.due("count(9)", bay.count(9), 2);
-        check.due("item(0, 0)", bay.item(0, 0), 3);
-        check.due("item(1, 1)", bay.item(1, 1), 1);
-        check.due("item(1, 2)", bay.item(1, 2), 2);
-    }
-
-    private static void fullText(Check check) {
-        check.part("promise 13, full text");
-        StarterBay bay = new StarterBay();
-        String ten = "0 fan 1;0 fan 0;0 fan 1;0 fan 0;0 fan 1;0 fan 0;0 fan 1;0 fan 0;0 fan 1;0 fan 0";
-        check.due("10 items in 79 characters", Bays.read(bay, ten), 10);
-        check.due("item(9, 2)", bay.item(9, 2), 0);
-        check.due("item(10, 2)", bay.item(10, 2), Bays.N);
-        check.due("type(';')", bay.type(';'), 80);
-        check.due("readTimetable()", bay.readTimetable(), -180);
-        check.due("count(9)", bay.count(9), 10);
-        check.due("pass(1)", bay.pass(1), 0);
-        check.due("count(9)", bay.count(9), 0);
-        check.due("count(7)", bay.count(7), 0);
-        String eighty = "10 fan 1;10 fan 0;10 fan 1;10 fan 0;10 fan 1;10 fan 0;10 fan 1;10 fan 0;10 fan";
-        check.due("an item that does not fit", Bays.read(bay, eighty), -100 - eighty.length());
-    }
-
-    private static void taking(Check check) {
-        check.part("promise 13, taking the place");
+    @Sentence(of = "Promise 13", says = {
+        "Reads the timetable of the text, which stays; it takes the place of all items that are left.", "This is an act."})
+    static void takesThePlace(Check check) {
         StarterBay bay = new StarterBay();
         Bays.read(bay, "5 fan 1;7 fan 0;9 stop 1");
         bay.pass(6);
         check.due("count(9)", bay.count(9), 2);
         check.due("item(0, 0)", bay.item(0, 0), 1);
-        check.due("count(7)", bay.count(7), 1);
         check.due("readTimetable() of the same text", bay.readTimetable(), 3);
-        check.due("item(0, 0): it is counted from now", bay.item(0, 0), 5);
         check.due("count(17): the text stays", bay.count(17), 24);
+        check.due("count(9): all of the other ones are gone", bay.count(9), 3);
+        check.due("item(0, 0): it is counted from now", bay.item(0, 0), 5);
+        check.due("item(2, 1)", bay.item(2, 1), 1);
         check.due("undo()", bay.undo(), 2);
         check.due("count(9)", bay.count(9), 2);
         check.due("item(0, 0)", bay.item(0, 0), 1);
-        check.due("undo()", bay.undo(), 1);
-        check.due("count(9)", bay.count(9), 3);
-        check.due("count(7)", bay.count(7), 0);
+        check.due("Bays.read of a shorter one", Bays.read(bay, "3 fan 0"), 1);
+        check.due("count(9)", bay.count(9), 1);
+        check.due("item(0, 2)", bay.item(0, 2), 0);
+        check.due("item(1, 0)", bay.item(1, 0), Bays.N);
+        Twins.undone(check, "readTimetable()", twin -> {
+            Bays.read(twin, "2 fan 1;3 stop 0");
+            Bays.typeAll(twin, ";4 start 1");
+        }, StarterBay::readTimetable, 3);
     }
 
-    private static void carryingOut(Check check) {
-        check.part("items");
+    @Sentence(of = "Promise 13",
+            says = "Returns the number of its items; -100 minus the fault of the text if it has one (which is an error).")
+    static void returnsTheNumberOfItsItems(Check check) {
+        StringBuilder text = new StringBuilder("0 fan 0");
+        for (int items = 1; items <= 10; items++) {
+            check.due("readTimetable() of " + items, Bays.read(new StarterBay(), text.toString()), items);
+            text.append(";0 fan ").append(items % 2);
+        }
         StarterBay bay = new StarterBay();
-        bay.addMotor(10, 2, 2, 60000);
-        Bays.read(bay, "0 start 0;1 lose 0 4;1 fan 1;2 lose 0 0;2 reset 0;3 start 0;6 stop 0");
-        bay.pass(1);
-        check.due("motor(0, 5): it is carried out ahead of the start", bay.motor(0, 5), 2);
-        check.due("count(9)", bay.count(9), 6);
-        bay.pass(1);
-        check.due("motor(0, 5)", bay.motor(0, 5), 4);
-        check.due("count(7)", bay.count(7), 1);
-        check.due("event(0, 0)", bay.event(0, 0), 1);
-        check.due("event(0, 2)", bay.event(0, 2), 5);
-        bay.pass(1);
-        check.due("motor(0, 5)", bay.motor(0, 5), 0);
-        check.due("event(0, 2)", bay.event(0, 2), 6);
-        check.due("pass(3)", bay.pass(3), 1);
-        check.due("motor(0, 5)", bay.motor(0, 5), 3);
-        bay.pass(1);
-        check.due("motor(0, 5)", bay.motor(0, 5), 0);
-        check.due("event(0, 0)", bay.event(0, 0), 6);
-        check.due("count(9)", bay.count(9), 0);
-        check.due("count(10)", bay.count(10), 0);
-        check.due("count(16): items are no acts", bay.count(16), 4);
-        check.due("undo()", bay.undo(), 3);
-        check.due("count(5)", bay.count(5), 6);
+        check.due("readTimetable() of 10, filled up", Bays.read(bay, text.substring(0, 79) + "000"), -178);
+        check.due("count(17)", bay.count(17), 80);
     }
 
-    private static void refusedItems(Check check) {
-        check.part("refused items");
-        StarterBay bay = new StarterBay();
-        bay.addMotor(10, 2, 2, 60000);
-        Bays.read(bay, "0 start 1;0 lose 7 1;0 lose 0 0;0 fan 0");
-        bay.pass(1);
-        check.due("count(10): those of unknown motors; NONE is no error", bay.count(10), 2);
-        check.due("count(8): UNKNOWN sets no reason", bay.count(8), 0);
-        Bays.read(bay, "0 stop 0;1 lose 0 1;1 reset 0;9 start 0;9 start 0");
-        bay.pass(1);
-        check.due("count(10)", bay.count(10), 3);
-        check.due("count(8)", bay.count(8), 1);
-        bay.undo();
-        check.due("count(10) after undo()", bay.count(10), 2);
-        check.due("count(8) stays after undo()", bay.count(8), 1);
-        bay.pass(60);
-        check.due("count(10)", bay.count(10), 5);
-        StarterBay tripped = Bays.tripped();
-        Bays.read(tripped, "1 reset 0");
-        tripped.pass(1);
-        check.due("count(10)", tripped.count(10), 0);
-        tripped.pass(1);
-        check.due("count(10)", tripped.count(10), 1);
-        check.due("count(8)", tripped.count(8), 4);
+    @Sentence(of = "Promise 13",
+            says = "Returns the number of its items; -100 minus the fault of the text if it has one (which is an error).")
+    static void aFaultChangesNothing(Check check) {
+        String[] texts = {"", ";", "7 start 5;8 start 6;9 start", "0 fan 1;0 fan 2", "0 fan 1;", "1 fan 1;0 fan 0"};
+        int[] places = {0, 0, 27, 14, 8, 8};
+        for (int place = 0; place < texts.length; place++) {
+            String text = texts[place];
+            Twins.stays(check, "readTimetable() of \"" + text + "\"", bay -> {
+                Bays.inMode(bay, 1);
+                Bays.read(bay, "3 fan 1;4 stop 2");
+                bay.clearText();
+                Bays.typeAll(bay, text);
+            }, StarterBay::readTimetable, -100 - places[place]);
+        }
     }
 }
