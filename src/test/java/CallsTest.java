@@ -1,12 +1,14 @@
 /** All 512 calls of an object answer what is due, and the numbers stay exact in the longest runs that they allow. */
 public final class CallsTest {
+    private static final String USED = "An object is used for at most 512 calls after it has been made; what later calls answer "
+            + "is free.";
     private static final int CALLS = 512;
 
     public static void main(String[] args) {
         Check.all(CallsTest.class);
     }
 
-    @Sentence(of = "What it is", says = "An object is used for at most 512 calls after it has been made; what later calls answer is free.")
+    @Sentence(of = "What it is", says = USED)
     static void theLastCall(Check check) {
         StarterBay bay = new StarterBay();
         for (int call = 1; call < CALLS; call++) {
@@ -25,7 +27,7 @@ public final class CallsTest {
         check.due("readTimetable() as the last call", types.readTimetable(), -100);
     }
 
-    @Sentence(of = "What it is", says = "An object is used for at most 512 calls after it has been made; what later calls answer is free.")
+    @Sentence(of = "What it is", says = USED)
     static void theMostHeat(Check check) {
         // Eight motors that run with 100 A to the end; each ramp takes in 5000, each second then 1000.
         StarterBay bay = new StarterBay();
@@ -46,7 +48,7 @@ public final class CallsTest {
         check.due("account(7, 4)", bay.account(7, 4), 60 * calls - 7);
     }
 
-    @Sentence(of = "What it is", says = "An object is used for at most 512 calls after it has been made; what later calls answer is free.")
+    @Sentence(of = "What it is", says = USED)
     static void theMostEvents(Check check) {
         // Each reading with 10 items brings 10 events at the most: 5 starts and 5 stops take 20 characters and more.
         StarterBay bay = new StarterBay();

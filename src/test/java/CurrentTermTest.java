@@ -1,5 +1,10 @@
 /** The sentences under CURRENT. */
 public final class CurrentTermTest {
+    private static final String STARTING = "A motor that is starting draws in the second k of its ramp (counted from 0) rated * "
+            + "factor * (k + 1) / ramp, rounded up; so in the last one rated * factor, which is its peak.";
+    private static final String START_HEAT = "The start heat of a motor is the sum, over all seconds of its ramp, of current * "
+            + "current / 10, each rounded down.";
+
     public static void main(String[] args) {
         Check.all(CurrentTermTest.class);
     }
@@ -13,8 +18,7 @@ public final class CurrentTermTest {
         return current;
     }
 
-    @Sentence(of = "CURRENT", says = "A motor that is starting draws in the second k of its ramp (counted from 0) "
-            + "rated * factor * (k + 1) / ramp, rounded up; so in the last one rated * factor, which is its peak.")
+    @Sentence(of = "CURRENT", says = STARTING)
     static void eachSecondOfARamp(Check check) {
         int[][] motors = {{1, 2, 2}, {1, 30, 2}, {1, 7, 3}, {7, 3, 2}, {10, 4, 5}, {33, 13, 3}, {100, 2, 6}, {100, 3, 6},
             {99, 3, 6}, {5, 30, 6}, {10, 5, 2}};
@@ -39,8 +43,7 @@ public final class CurrentTermTest {
         }
     }
 
-    @Sentence(of = "CURRENT", says = "A motor that is starting draws in the second k of its ramp (counted from 0) "
-            + "rated * factor * (k + 1) / ramp, rounded up; so in the last one rated * factor, which is its peak.")
+    @Sentence(of = "CURRENT", says = STARTING)
     static void roundedUpAndThePeak(Check check) {
         // 20 A in 3 seconds: 6.7, 13.3 and 20, the last of which is not rounded.
         StarterBay bay = new StarterBay();
@@ -106,8 +109,7 @@ public final class CurrentTermTest {
         }
     }
 
-    @Sentence(of = "CURRENT", says = "The start heat of a motor is the sum, over all seconds of its ramp, "
-            + "of current * current / 10, each rounded down.")
+    @Sentence(of = "CURRENT", says = START_HEAT)
     static void startHeat(Check check) {
         // 1 and 2 A: 0.1 and 0.4. 3 and 6 A: 0.9 and 3.6, not 4. 5 and 10 A: 2.5 and 10. 7, 14 and 20 A: 4.9, 19.6 and 40.
         int[][] motors = {{1, 2, 2, 0}, {3, 2, 2, 3}, {5, 2, 2, 12}, {10, 3, 2, 63}, {100, 2, 2, 5000}, {10, 5, 2, 86},
@@ -119,8 +121,7 @@ public final class CurrentTermTest {
         }
     }
 
-    @Sentence(of = "CURRENT", says = "The start heat of a motor is the sum, over all seconds of its ramp, "
-            + "of current * current / 10, each rounded down.")
+    @Sentence(of = "CURRENT", says = START_HEAT)
     static void startHeatIsWhatARampTakesIn(Check check) {
         int[][] motors = {{3, 2, 2}, {7, 30, 6}, {33, 13, 3}, {100, 3, 6}, {2, 29, 5}};
         for (int[] motor : motors) {

@@ -1,5 +1,9 @@
 /** The sentences under ERRORS. */
 public final class ErrorsTermTest {
+    private static final String ORDER = "Where several errors can apply, the order of the @return line is the order of the "
+            + "checks.";
+    private static final String CHANGES_NOTHING = "A call that returns an error or NONE changes nothing (but for the reason, if "
+            + "it is REFUSED).";
     private static final int[] FAR = {Integer.MIN_VALUE, -1000, -1, 2, 8, 1000, Integer.MAX_VALUE};
     private static final int[] FAR_VALUES = {Integer.MIN_VALUE, -1, 70000, Integer.MAX_VALUE};
 
@@ -100,8 +104,7 @@ public final class ErrorsTermTest {
         check.due("undo()", bay.undo(), -4);
     }
 
-    @Sentence(of = "ERRORS",
-            says = "Where several errors can apply, the order of the @return line is the order of the checks.")
+    @Sentence(of = "ERRORS", says = ORDER)
     static void theOrderOfTheChecks(Check check) {
         StarterBay bay = new StarterBay();
         Bays.addSmall(bay, 8);
@@ -114,8 +117,7 @@ public final class ErrorsTermTest {
         check.due("account: UNKNOWN is ahead of BAD_VALUE", bay.account(-1, -1), Bays.U);
     }
 
-    @Sentence(of = "ERRORS",
-            says = "Where several errors can apply, the order of the @return line is the order of the checks.")
+    @Sentence(of = "ERRORS", says = ORDER)
     static void theOrderOfTheReasons(Check check) {
         StarterBay stopped = two();
         stopped.losePhases(0, 1);
@@ -172,7 +174,7 @@ public final class ErrorsTermTest {
         Bays.typeAll(bay, ";9 stop 2");
     }
 
-    @Sentence(of = "ERRORS", says = "A call that returns an error or NONE changes nothing (but for the reason, if it is REFUSED).")
+    @Sentence(of = "ERRORS", says = CHANGES_NOTHING)
     static void errorsChangeNothing(Check check) {
         Twins.Calls full = ErrorsTermTest::makeFull;
         for (int far = -1; far <= 5; far += 6) {
@@ -192,7 +194,7 @@ public final class ErrorsTermTest {
         Twins.stays(check, "pass(61)", full, bay -> bay.pass(61), Bays.B);
     }
 
-    @Sentence(of = "ERRORS", says = "A call that returns an error or NONE changes nothing (but for the reason, if it is REFUSED).")
+    @Sentence(of = "ERRORS", says = CHANGES_NOTHING)
     static void noneChangesNothing(Check check) {
         Twins.Calls full = ErrorsTermTest::makeFull;
         Twins.stays(check, "setNeed(2, 7)", full, bay -> bay.setNeed(2, 7), Bays.N);
@@ -208,7 +210,7 @@ public final class ErrorsTermTest {
         Twins.stays(check, "undo()", bay -> Bays.typeAll(bay, "0 fan 1"), StarterBay::undo, Bays.N);
     }
 
-    @Sentence(of = "ERRORS", says = "A call that returns an error or NONE changes nothing (but for the reason, if it is REFUSED).")
+    @Sentence(of = "ERRORS", says = CHANGES_NOTHING)
     static void refusalsChangeTheReasonAlone(Check check) {
         Twins.Calls full = ErrorsTermTest::makeFull;
         for (int number = 1; number <= 3; number++) {

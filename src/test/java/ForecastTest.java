@@ -377,8 +377,9 @@ public final class ForecastTest {
     static void refusedItemsAndEventsOfAllTimes(Check check) {
         StarterBay bay = new StarterBay();
         Bays.addSmall(bay, 1);
+        Bays.typeAll(bay, "0 stop 0;0 start 0;0 stop 0;0 reset 7");
         for (int round = 1; round <= 20; round++) {
-            Bays.read(bay, "0 stop 0;0 start 0;0 stop 0;0 reset 7");
+            bay.readTimetable();
             bay.pass(1);
             check.due("count(10): those of earlier timetables count", bay.count(10), 2 * round);
             check.due("count(15): those that are kept no longer count", bay.count(15), round);

@@ -1,5 +1,7 @@
 /** The sentences under HISTORY. */
 public final class HistoryTermTest {
+    private static final String KEPT = "A history of at most 4 states is kept; when one more is recorded, the oldest one is "
+            + "dropped; undo() removes and restores the latest one.";
     private static final String ACTS = "Each call of a method that is described as an act, and returns no error (a refusal is one) "
             + "and not NONE, records the state that was before it.";
     private static final String STATE = "A state is everything but the text, the history, the snapshot and the reason.";
@@ -8,8 +10,7 @@ public final class HistoryTermTest {
         Check.all(HistoryTermTest.class);
     }
 
-    @Sentence(of = "HISTORY", says = "A history of at most 4 states is kept; when one more is recorded, the oldest one is dropped; "
-            + "undo() removes and restores the latest one.")
+    @Sentence(of = "HISTORY", says = KEPT)
     static void atMostFour(Check check) {
         for (int acts = 0; acts <= 9; acts++) {
             StarterBay bay = new StarterBay();
@@ -29,8 +30,7 @@ public final class HistoryTermTest {
         }
     }
 
-    @Sentence(of = "HISTORY", says = "A history of at most 4 states is kept; when one more is recorded, the oldest one is dropped; "
-            + "undo() removes and restores the latest one.")
+    @Sentence(of = "HISTORY", says = KEPT)
     static void recordedAnewBehindUndo(Check check) {
         StarterBay bay = new StarterBay();
         for (int limit = 101; limit <= 106; limit++) {

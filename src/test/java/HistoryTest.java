@@ -1,10 +1,14 @@
 /** Promises 14 to 16. */
 public final class HistoryTest {
+    private static final String UNDO = "Removes and restores the latest state of the history.";
+    private static final String KEEP = "Takes a snapshot of the state, in place of the one that was.";
+    private static final String RESTORE = "Restores the state of the snapshot, which stays.";
+
     public static void main(String[] args) {
         Check.all(HistoryTest.class);
     }
 
-    @Sentence(of = "Promise 14", says = "Removes and restores the latest state of the history.")
+    @Sentence(of = "Promise 14", says = UNDO)
     static void removesAndRestores(Check check) {
         StarterBay bay = Bays.running(1000);
         bay.undo();
@@ -20,7 +24,7 @@ public final class HistoryTest {
         check.due("count(0)", bay.count(0), 0);
     }
 
-    @Sentence(of = "Promise 14", says = "Removes and restores the latest state of the history.")
+    @Sentence(of = "Promise 14", says = UNDO)
     static void doneAnewItIsTheSame(Check check) {
         StarterBay bay = new StarterBay();
         Bays.inMode(bay, 1);
@@ -48,7 +52,7 @@ public final class HistoryTest {
         check.due("undo()", bay.undo(), 0);
     }
 
-    @Sentence(of = "Promise 15", says = "Takes a snapshot of the state, in place of the one that was.")
+    @Sentence(of = "Promise 15", says = KEEP)
     static void inPlaceOfTheOneThatWas(Check check) {
         StarterBay bay = new StarterBay();
         bay.keep();
@@ -63,7 +67,7 @@ public final class HistoryTest {
         check.due("count(6)", bay.count(6), 77);
     }
 
-    @Sentence(of = "Promise 15", says = "Takes a snapshot of the state, in place of the one that was.")
+    @Sentence(of = "Promise 15", says = KEEP)
     static void keepChangesNoState(Check check) {
         StarterBay bay = new StarterBay();
         Bays.inMode(bay, 2);
@@ -86,7 +90,7 @@ public final class HistoryTest {
         check.due("keep()", bay.keep(), 1);
     }
 
-    @Sentence(of = "Promise 16", says = {"Restores the state of the snapshot, which stays.", "This is an act."})
+    @Sentence(of = "Promise 16", says = {RESTORE, "This is an act."})
     static void theSnapshotStays(Check check) {
         StarterBay bay = new StarterBay();
         bay.setLimit(101);
@@ -112,7 +116,7 @@ public final class HistoryTest {
         }, StarterBay::restore, 0);
     }
 
-    @Sentence(of = "Promise 16", says = {"Restores the state of the snapshot, which stays.", "This is an act."})
+    @Sentence(of = "Promise 16", says = {RESTORE, "This is an act."})
     static void restoringTheSameStateIsAnActToo(Check check) {
         StarterBay bay = new StarterBay();
         bay.keep();
@@ -134,7 +138,7 @@ public final class HistoryTest {
     }
 
     // The motor 0 of the snapshot is another one than the motor 0 that was added since.
-    @Sentence(of = "Promise 16", says = {"Restores the state of the snapshot, which stays.", "This is an act."})
+    @Sentence(of = "Promise 16", says = {RESTORE, "This is an act."})
     static void anotherMotorOfTheSameNumber(Check check) {
         StarterBay bay = new StarterBay();
         bay.addMotor(10, 3, 2, 1000);
@@ -156,7 +160,7 @@ public final class HistoryTest {
         check.due("motor(1, 0)", bay.motor(1, 0), 30);
     }
 
-    @Sentence(of = "Promise 16", says = {"Restores the state of the snapshot, which stays.", "This is an act."})
+    @Sentence(of = "Promise 16", says = {RESTORE, "This is an act."})
     static void eventsThatWereDroppedComeBack(Check check) {
         StarterBay bay = Bays.tripped();
         Bays.addSmall(bay, 1);
@@ -177,7 +181,7 @@ public final class HistoryTest {
         check.due("count(15)", bay.count(15), 2);
     }
 
-    @Sentence(of = "Promise 16", says = {"Restores the state of the snapshot, which stays.", "This is an act."})
+    @Sentence(of = "Promise 16", says = {RESTORE, "This is an act."})
     static void whatWasWaitedAndTheRampComeBack(Check check) {
         StarterBay bay = new StarterBay();
         bay.addMotor(10, 9, 2, 1000);
@@ -200,7 +204,7 @@ public final class HistoryTest {
         check.due("motor(1, 9)", bay.motor(1, 9), 3);
     }
 
-    @Sentence(of = "Promise 16", says = {"Restores the state of the snapshot, which stays.", "This is an act."})
+    @Sentence(of = "Promise 16", says = {RESTORE, "This is an act."})
     static void theReasonOfATripComesBack(Check check) {
         StarterBay bay = new StarterBay();
         bay.addMotor(10, 2, 2, 104);
@@ -217,7 +221,7 @@ public final class HistoryTest {
         check.due("motor(0, 11)", bay.motor(0, 11), 4);
     }
 
-    @Sentence(of = "Promise 16", says = {"Restores the state of the snapshot, which stays.", "This is an act."})
+    @Sentence(of = "Promise 16", says = {RESTORE, "This is an act."})
     static void theSecondsOfALossComeBack(Check check) {
         StarterBay bay = Bays.running(60000);
         bay.losePhases(0, 1);
@@ -230,7 +234,7 @@ public final class HistoryTest {
         check.due("motor(0, 5)", bay.motor(0, 5), 4);
     }
 
-    @Sentence(of = "Promise 16", says = {"Restores the state of the snapshot, which stays.", "This is an act."})
+    @Sentence(of = "Promise 16", says = {RESTORE, "This is an act."})
     static void itemsThatWereCarriedOutComeBack(Check check) {
         StarterBay bay = new StarterBay();
         Bays.read(bay, "1 fan 1;3 fan 0");

@@ -1,5 +1,10 @@
 /** The sentences under MOTORS. */
 public final class MotorsTermTest {
+    private static final String HAS = "A motor has a rated current (1 to 100), a ramp (2 to 30 seconds), a factor (2 to 6), a "
+            + "limit of its heat (100 to 60000) and a need (0 to 9, at first 5).";
+    private static final String HOLDS = "It holds an amount of heat (0 at first), and some of its three phases can be lost "
+            + "(none at first), which are told as a bit set (the bit k for the phase k).";
+
     public static void main(String[] args) {
         Check.all(MotorsTermTest.class);
     }
@@ -27,8 +32,7 @@ public final class MotorsTermTest {
         Twins.refused(check, "the ninth addMotor", MotorsTermTest::addEight, twin -> twin.addMotor(50, 5, 2, 1000), 5);
     }
 
-    @Sentence(of = "MOTORS", says = "A motor has a rated current (1 to 100), a ramp (2 to 30 seconds), a factor (2 to 6), "
-            + "a limit of its heat (100 to 60000) and a need (0 to 9, at first 5).")
+    @Sentence(of = "MOTORS", says = HAS)
     static void whatAMotorHas(Check check) {
         int[] least = {1, 2, 2, 100};
         int[] most = {100, 30, 6, 60000};
@@ -57,8 +61,7 @@ public final class MotorsTermTest {
                 bay -> bay.addMotor(values[0], values[1], values[2], values[3]), Bays.B);
     }
 
-    @Sentence(of = "MOTORS", says = "A motor has a rated current (1 to 100), a ramp (2 to 30 seconds), a factor (2 to 6), "
-            + "a limit of its heat (100 to 60000) and a need (0 to 9, at first 5).")
+    @Sentence(of = "MOTORS", says = HAS)
     static void needFromZeroToNine(Check check) {
         StarterBay bay = new StarterBay();
         Bays.addSmall(bay, 2);
@@ -109,8 +112,7 @@ public final class MotorsTermTest {
         }
     }
 
-    @Sentence(of = "MOTORS", says = "It holds an amount of heat (0 at first), and some of its three phases can be lost "
-            + "(none at first), which are told as a bit set (the bit k for the phase k).")
+    @Sentence(of = "MOTORS", says = HOLDS)
     static void heatAndPhasesAtFirst(Check check) {
         StarterBay bay = new StarterBay();
         Bays.addSmall(bay, 8);
@@ -120,8 +122,7 @@ public final class MotorsTermTest {
         }
     }
 
-    @Sentence(of = "MOTORS", says = "It holds an amount of heat (0 at first), and some of its three phases can be lost "
-            + "(none at first), which are told as a bit set (the bit k for the phase k).")
+    @Sentence(of = "MOTORS", says = HOLDS)
     static void eachSetOfPhases(Check check) {
         StarterBay bay = new StarterBay();
         Bays.addSmall(bay, 2);

@@ -1,5 +1,12 @@
 /** Promises 6 to 10. */
 public final class OrdersTest {
+    private static final String RETURNS_PLACE = "Returns its place in the queue, from 0; UNKNOWN; REFUSED for the reason 1 if "
+            + "it is not stopped.";
+    private static final String RETURNS_MODE = "Returns the mode in which it was; UNKNOWN; REFUSED for the reason 1 if it is "
+            + "stopped or tripped.";
+    private static final String RETURNS_HEAT = "Returns the heat that it holds; UNKNOWN; REFUSED for the reasons 1 (if it is not "
+            + "tripped), 4 (if any phase is lost) and 2 (if it holds more than half its limit, rounded down), in this order.";
+
     public static void main(String[] args) {
         Check.all(OrdersTest.class);
     }
@@ -22,7 +29,7 @@ public final class OrdersTest {
     }
 
     @Sentence(of = "Promise 6", says = {"`motor`: the motor",
-        "Returns its place in the queue, from 0; UNKNOWN; REFUSED for the reason 1 if it is not stopped."})
+        RETURNS_PLACE})
     static void returnsItsPlace(Check check) {
         StarterBay bay = new StarterBay();
         check.due("request(0)", bay.request(0), Bays.U);
@@ -43,7 +50,7 @@ public final class OrdersTest {
     }
 
     @Sentence(of = "Promise 6", says = {"`motor`: the motor",
-        "Returns its place in the queue, from 0; UNKNOWN; REFUSED for the reason 1 if it is not stopped."})
+        RETURNS_PLACE})
     static void requestIsRefused(Check check) {
         for (int mode = 1; mode <= 4; mode++) {
             int brought = mode;
@@ -75,7 +82,7 @@ public final class OrdersTest {
     }
 
     @Sentence(of = "Promise 7", says = {"`motor`: the motor",
-        "Returns the mode in which it was; UNKNOWN; REFUSED for the reason 1 if it is stopped or tripped."})
+        RETURNS_MODE})
     static void returnsTheMode(Check check) {
         for (int mode = 0; mode <= 4; mode++) {
             StarterBay bay = new StarterBay();
@@ -90,7 +97,7 @@ public final class OrdersTest {
     }
 
     @Sentence(of = "Promise 7", says = {"`motor`: the motor",
-        "Returns the mode in which it was; UNKNOWN; REFUSED for the reason 1 if it is stopped or tripped."})
+        RETURNS_MODE})
     static void stopIsRefused(Check check) {
         Twins.refused(check, "stop(0), stopped", bay -> Bays.inMode(bay, 0), bay -> bay.stop(0), 1);
         Twins.refused(check, "stop(0), tripped", bay -> Bays.inMode(bay, 4), bay -> bay.stop(0), 1);
@@ -182,9 +189,6 @@ public final class OrdersTest {
         check.due("account(0, 3)", bay.account(0, 3), 1);
         check.due("request(0): it can be requested then", bay.request(0), 0);
     }
-
-    private static final String RETURNS_HEAT = "Returns the heat that it holds; UNKNOWN; REFUSED for the reasons 1 (if it is not "
-            + "tripped), 4 (if any phase is lost) and 2 (if it holds more than half its limit, rounded down), in this order.";
 
     @Sentence(of = "Promise 9", says = {"`motor`: the motor", RETURNS_HEAT})
     static void returnsTheHeat(Check check) {

@@ -1,5 +1,12 @@
 /** The sentences under QUEUE. */
 public final class QueueTermTest {
+    private static final String URGENCY = "Its urgency is its need plus 1 for each 10 full seconds for which it has waited.";
+    private static final String LINE = "The queue has all motors that are waiting: the one with the greater urgency is ahead; "
+            + "of the same, the one that has waited longer; then the one with the lower number.";
+    private static final String CAN_START = "A motor that is waiting can start if (4) none of its phases is lost, (2) its "
+            + "credit is at least its start heat, and (3) its peak, plus the peaks of all that are starting, plus what all that "
+            + "are running draw, is at most the limit of the bay (10 to 2000, at first 500).";
+
     public static void main(String[] args) {
         Check.all(QueueTermTest.class);
     }
@@ -46,7 +53,7 @@ public final class QueueTermTest {
         check.due("motor(0, 9): an item requested it ahead of this second", bay.motor(0, 9), 1);
     }
 
-    @Sentence(of = "QUEUE", says = "Its urgency is its need plus 1 for each 10 full seconds for which it has waited.")
+    @Sentence(of = "QUEUE", says = URGENCY)
     static void urgencyGrowsAtTenFullSeconds(Check check) {
         int[] seconds = {9, 10, 19, 20, 89, 90};
         int[] gained = {0, 1, 1, 2, 8, 9};
@@ -63,7 +70,7 @@ public final class QueueTermTest {
         }
     }
 
-    @Sentence(of = "QUEUE", says = "Its urgency is its need plus 1 for each 10 full seconds for which it has waited.")
+    @Sentence(of = "QUEUE", says = URGENCY)
     static void bothGrow(Check check) {
         StarterBay bay = stuck(5, 6);
         bay.request(0);
@@ -76,8 +83,7 @@ public final class QueueTermTest {
         }
     }
 
-    @Sentence(of = "QUEUE", says = "The queue has all motors that are waiting: the one with the greater urgency is ahead; "
-            + "of the same, the one that has waited longer; then the one with the lower number.")
+    @Sentence(of = "QUEUE", says = LINE)
     static void greaterUrgencyIsAhead(Check check) {
         StarterBay bay = stuck(4, 5, 6);
         bay.request(0);
@@ -90,8 +96,7 @@ public final class QueueTermTest {
         line(check, "with another need", bay, 0, 2, 1);
     }
 
-    @Sentence(of = "QUEUE", says = "The queue has all motors that are waiting: the one with the greater urgency is ahead; "
-            + "of the same, the one that has waited longer; then the one with the lower number.")
+    @Sentence(of = "QUEUE", says = LINE)
     static void ofTheSameTheOneThatHasWaitedLonger(Check check) {
         StarterBay bay = stuck(5, 5, 5);
         bay.request(2);
@@ -107,8 +112,7 @@ public final class QueueTermTest {
         line(check, "the same urgency by 10 seconds", grown, 0, 1);
     }
 
-    @Sentence(of = "QUEUE", says = "The queue has all motors that are waiting: the one with the greater urgency is ahead; "
-            + "of the same, the one that has waited longer; then the one with the lower number.")
+    @Sentence(of = "QUEUE", says = LINE)
     static void thenTheOneWithTheLowerNumber(Check check) {
         StarterBay bay = stuck(5, 5, 5, 5, 5, 5, 5, 5);
         int[] order = {3, 7, 0, 5, 1, 6, 2, 4};
@@ -118,8 +122,7 @@ public final class QueueTermTest {
         line(check, "requested at the same time", bay, 0, 1, 2, 3, 4, 5, 6, 7);
     }
 
-    @Sentence(of = "QUEUE", says = "The queue has all motors that are waiting: the one with the greater urgency is ahead; "
-            + "of the same, the one that has waited longer; then the one with the lower number.")
+    @Sentence(of = "QUEUE", says = LINE)
     static void onlyThoseThatAreWaiting(Check check) {
         for (int mode = 0; mode <= 4; mode++) {
             StarterBay bay = new StarterBay();
@@ -129,9 +132,7 @@ public final class QueueTermTest {
         }
     }
 
-    @Sentence(of = "QUEUE", says = "A motor that is waiting can start if (4) none of its phases is lost, (2) its credit is at "
-            + "least its start heat, and (3) its peak, plus the peaks of all that are starting, plus what all that are "
-            + "running draw, is at most the limit of the bay (10 to 2000, at first 500).")
+    @Sentence(of = "QUEUE", says = CAN_START)
     static void noneOfItsPhasesIsLost(Check check) {
         for (int lost = 0; lost <= 7; lost++) {
             StarterBay bay = new StarterBay();
@@ -143,9 +144,7 @@ public final class QueueTermTest {
         }
     }
 
-    @Sentence(of = "QUEUE", says = "A motor that is waiting can start if (4) none of its phases is lost, (2) its credit is at "
-            + "least its start heat, and (3) its peak, plus the peaks of all that are starting, plus what all that are "
-            + "running draw, is at most the limit of the bay (10 to 2000, at first 500).")
+    @Sentence(of = "QUEUE", says = CAN_START)
     static void itsCreditIsAtLeastItsStartHeat(Check check) {
         // A start takes 1000 + 4000.
         for (int limit = 4999; limit <= 5001; limit++) {
@@ -173,9 +172,7 @@ public final class QueueTermTest {
         }
     }
 
-    @Sentence(of = "QUEUE", says = "A motor that is waiting can start if (4) none of its phases is lost, (2) its credit is at "
-            + "least its start heat, and (3) its peak, plus the peaks of all that are starting, plus what all that are "
-            + "running draw, is at most the limit of the bay (10 to 2000, at first 500).")
+    @Sentence(of = "QUEUE", says = CAN_START)
     static void itsPeakIsAtMostTheLimitOfTheBay(Check check) {
         StarterBay first = new StarterBay();
         check.due("count(6) at first", first.count(6), 500);
@@ -202,9 +199,7 @@ public final class QueueTermTest {
         check.due("whyNot(1): 12 of 10", least.whyNot(1), 3);
     }
 
-    @Sentence(of = "QUEUE", says = "A motor that is waiting can start if (4) none of its phases is lost, (2) its credit is at "
-            + "least its start heat, and (3) its peak, plus the peaks of all that are starting, plus what all that are "
-            + "running draw, is at most the limit of the bay (10 to 2000, at first 500).")
+    @Sentence(of = "QUEUE", says = CAN_START)
     static void thePeaksOfThoseThatAreStarting(Check check) {
         // A start with 60 of peak, in its first second, and one of 30 beside it: the peaks count, not what is drawn.
         for (int limit = 99; limit <= 100; limit++) {
@@ -224,9 +219,7 @@ public final class QueueTermTest {
         }
     }
 
-    @Sentence(of = "QUEUE", says = "A motor that is waiting can start if (4) none of its phases is lost, (2) its credit is at "
-            + "least its start heat, and (3) its peak, plus the peaks of all that are starting, plus what all that are "
-            + "running draw, is at most the limit of the bay (10 to 2000, at first 500).")
+    @Sentence(of = "QUEUE", says = CAN_START)
     static void whatThoseThatAreRunningDraw(Check check) {
         StarterBay bay = new StarterBay();
         bay.addMotor(11, 2, 2, 60000);

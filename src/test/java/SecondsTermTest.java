@@ -1,10 +1,24 @@
 /** The sentences under SECONDS. */
 public final class SecondsTermTest {
+    private static final String ORDER = "When a second passes, the following happens in this order:";
+    private static final String ITEMS = "The items of the timetable that are due at this time are carried out, in their order.";
+    private static final String FIRST = "The first motor in the queue that can start (if there is any) starts: it is starting "
+            + "then, with the second 0 of its ramp.";
+    private static final String TAKES_IN = "For each motor, by its number: it takes in the heat current * current / 10, rounded "
+            + "down (twice this rounded number if any phase is lost).";
+    private static final String GIVES_OFF = "Then it gives off heat * rate / 1000, rounded down, of the heat that it holds "
+            + "then; the rate is 40 if it turns, otherwise 20, and 30 more if the fan is on.";
+    private static final String TRIPS_FOR_HEAT =
+            "Then, if it turns: if it holds more than its limit, it trips (for the reason 2).";
+    private static final String TRIPS_FOR_PHASES = "Otherwise, if it is running, a phase is lost (whichever it is), and this is "
+            + "the third second of this one behind the other (as this point finds it each time; a loss that is mended and comes "
+            + "again between two seconds goes on), it trips (for the reason 4).";
+
     public static void main(String[] args) {
         Check.all(SecondsTermTest.class);
     }
 
-    @Sentence(of = "SECONDS", says = "When a second passes, the following happens in this order:")
+    @Sentence(of = "SECONDS", says = ORDER)
     static void itemsAreAheadOfTheStart(Check check) {
         StarterBay requested = new StarterBay();
         Bays.addSmall(requested, 1);
@@ -21,7 +35,7 @@ public final class SecondsTermTest {
         }
     }
 
-    @Sentence(of = "SECONDS", says = "When a second passes, the following happens in this order:")
+    @Sentence(of = "SECONDS", says = ORDER)
     static void theStartIsAheadOfTheHeat(Check check) {
         StarterBay bay = new StarterBay();
         Bays.addSmall(bay, 2);
@@ -29,7 +43,7 @@ public final class SecondsTermTest {
         bay.pass(1);
         check.due("account(0, 0): the second in which it starts counts", bay.account(0, 0), 10);
         check.due("account(0, 4)", bay.account(0, 4), 1);
-        // 50 of heat are left when the second begins: the one that is given off in it comes too late for the start.
+        // With 51 of 100 held when the second begins, a start of 50 is too much; the 1 that is given off comes too late.
         StarterBay warm = Bays.running(100);
         warm.pass(1);
         warm.stop(0);
@@ -41,7 +55,7 @@ public final class SecondsTermTest {
         check.due("pass(1)", warm.pass(1), 1);
     }
 
-    @Sentence(of = "SECONDS", says = "When a second passes, the following happens in this order:")
+    @Sentence(of = "SECONDS", says = ORDER)
     static void theFanOfAnItemCountsInItsSecond(Check check) {
         StarterBay bay = new StarterBay();
         Bays.run(bay, 100, 60000);
@@ -51,7 +65,7 @@ public final class SecondsTermTest {
         check.due("motor(0, 6)", bay.motor(0, 6), 4762 - 238);
     }
 
-    @Sentence(of = "SECONDS", says = "The items of the timetable that are due at this time are carried out, in their order.")
+    @Sentence(of = "SECONDS", says = ITEMS)
     static void dueItemsInTheirOrder(Check check) {
         String[] texts = {"0 fan 1;0 fan 0", "0 fan 0;0 fan 1", "0 fan 0;0 fan 1;0 fan 0"};
         int[] fan = {0, 1, 0};
@@ -71,7 +85,7 @@ public final class SecondsTermTest {
         check.due("count(15): the first stop", bay.count(15), 1);
     }
 
-    @Sentence(of = "SECONDS", says = "The items of the timetable that are due at this time are carried out, in their order.")
+    @Sentence(of = "SECONDS", says = ITEMS)
     static void thoseOfTheNextSecondAreLeft(Check check) {
         StarterBay bay = new StarterBay();
         Bays.read(bay, "0 fan 1;1 fan 0;1 fan 1;3 fan 0");
@@ -84,8 +98,7 @@ public final class SecondsTermTest {
         }
     }
 
-    @Sentence(of = "SECONDS", says = "The first motor in the queue that can start (if there is any) starts: it is starting "
-            + "then, with the second 0 of its ramp.")
+    @Sentence(of = "SECONDS", says = FIRST)
     static void theFirstThatCanStarts(Check check) {
         for (int mended = 0; mended < 3; mended++) {
             StarterBay bay = new StarterBay();
@@ -108,8 +121,7 @@ public final class SecondsTermTest {
         }
     }
 
-    @Sentence(of = "SECONDS", says = "The first motor in the queue that can start (if there is any) starts: it is starting "
-            + "then, with the second 0 of its ramp.")
+    @Sentence(of = "SECONDS", says = FIRST)
     static void aNewStartBeginsAtTheSecondZero(Check check) {
         StarterBay bay = new StarterBay();
         Bays.inMode(bay, 2);
@@ -171,8 +183,7 @@ public final class SecondsTermTest {
         }
     }
 
-    @Sentence(of = "SECONDS", says = "For each motor, by its number: it takes in the heat current * current / 10, rounded down "
-            + "(twice this rounded number if any phase is lost).")
+    @Sentence(of = "SECONDS", says = TAKES_IN)
     static void byTheirNumbers(Check check) {
         StarterBay bay = new StarterBay();
         bay.addMotor(10, 2, 2, 1000);
@@ -190,8 +201,7 @@ public final class SecondsTermTest {
         }
     }
 
-    @Sentence(of = "SECONDS", says = "For each motor, by its number: it takes in the heat current * current / 10, rounded down "
-            + "(twice this rounded number if any phase is lost).")
+    @Sentence(of = "SECONDS", says = TAKES_IN)
     static void heatThatIsTakenIn(Check check) {
         // {rated, a second of running, one with a lost phase}: 0.9 and 1.6; 2.5 and 4.9; 1000 and 2250.
         int[][] motors = {{1, 0, 0}, {3, 0, 2}, {5, 2, 8}, {100, 1000, 4500}};
@@ -208,8 +218,7 @@ public final class SecondsTermTest {
         }
     }
 
-    @Sentence(of = "SECONDS", says = "Then it gives off heat * rate / 1000, rounded down, of the heat that it holds then; "
-            + "the rate is 40 if it turns, otherwise 20, and 30 more if the fan is on.")
+    @Sentence(of = "SECONDS", says = GIVES_OFF)
     static void heatThatIsGivenOff(Check check) {
         // {in the mode 3 or 0, the fan, what is held then}, from 4762 on; a running motor takes in 1000 first.
         int[][] cases = {{3, 0, 5762 - 230}, {3, 1, 5762 - 403}, {0, 0, 4762 - 95}, {0, 1, 4762 - 238}};
@@ -227,8 +236,7 @@ public final class SecondsTermTest {
         }
     }
 
-    @Sentence(of = "SECONDS", says = "Then it gives off heat * rate / 1000, rounded down, of the heat that it holds then; "
-            + "the rate is 40 if it turns, otherwise 20, and 30 more if the fan is on.")
+    @Sentence(of = "SECONDS", says = GIVES_OFF)
     static void theRateOfEachMode(Check check) {
         // Waiting and tripped motors stand; a starting one turns: 10 - 0, then 50 with 2, or with the fan 3.
         StarterBay waiting = new StarterBay();
@@ -254,8 +262,7 @@ public final class SecondsTermTest {
         }
     }
 
-    @Sentence(of = "SECONDS", says = "Then it gives off heat * rate / 1000, rounded down, of the heat that it holds then; "
-            + "the rate is 40 if it turns, otherwise 20, and 30 more if the fan is on.")
+    @Sentence(of = "SECONDS", says = GIVES_OFF)
     static void manySeconds(Check check) {
         StarterBay bay = new StarterBay();
         Bays.run(bay, 90, 60000);
@@ -268,8 +275,7 @@ public final class SecondsTermTest {
         }
     }
 
-    @Sentence(of = "SECONDS", says = "Then it gives off heat * rate / 1000, rounded down, of the heat that it holds then; "
-            + "the rate is 40 if it turns, otherwise 20, and 30 more if the fan is on.")
+    @Sentence(of = "SECONDS", says = GIVES_OFF)
     static void roundedDownToNothing(Check check) {
         // A motor of 3 A takes in nothing when it runs; its heat falls until heat * rate is below 1000.
         int[][] cases = {{3, 0, 24}, {3, 1, 14}, {0, 0, 39}, {0, 1, 19}};
@@ -297,7 +303,7 @@ public final class SecondsTermTest {
         check.due("motor(0, 6): nothing of 49", bay.motor(0, 6), 49);
     }
 
-    @Sentence(of = "SECONDS", says = "Then, if it turns: if it holds more than its limit, it trips (for the reason 2).")
+    @Sentence(of = "SECONDS", says = TRIPS_FOR_HEAT)
     static void moreThanItsLimit(Check check) {
         // The heat runs 48, 56, 64, 72, 79, 86, 93, 99, 105.
         for (int limit = 104; limit <= 106; limit++) {
@@ -315,7 +321,7 @@ public final class SecondsTermTest {
         }
     }
 
-    @Sentence(of = "SECONDS", says = "Then, if it turns: if it holds more than its limit, it trips (for the reason 2).")
+    @Sentence(of = "SECONDS", says = TRIPS_FOR_HEAT)
     static void whatDoesNotTurnDoesNotTrip(Check check) {
         // 4762 + 4500 - 370, + 4500 - 535: in its second second it trips, and stays far above the limit.
         StarterBay hot = new StarterBay();
@@ -339,9 +345,7 @@ public final class SecondsTermTest {
         check.due("account(0, 3)", stopped.account(0, 3), 0);
     }
 
-    @Sentence(of = "SECONDS", says = "Otherwise, if it is running, a phase is lost (whichever it is), and this is the third second "
-            + "of this one behind the other (as this point finds it each time; a loss that is mended and comes again between "
-            + "two seconds goes on), it trips (for the reason 4).")
+    @Sentence(of = "SECONDS", says = TRIPS_FOR_PHASES)
     static void theThirdSecondOfALoss(Check check) {
         for (int lost = 1; lost <= 7; lost++) {
             StarterBay bay = Bays.running(60000);
@@ -358,9 +362,7 @@ public final class SecondsTermTest {
         }
     }
 
-    @Sentence(of = "SECONDS", says = "Otherwise, if it is running, a phase is lost (whichever it is), and this is the third second "
-            + "of this one behind the other (as this point finds it each time; a loss that is mended and comes again between "
-            + "two seconds goes on), it trips (for the reason 4).")
+    @Sentence(of = "SECONDS", says = TRIPS_FOR_PHASES)
     static void whicheverPhaseItIs(Check check) {
         StarterBay bay = Bays.running(60000);
         for (int lost = 1; lost <= 4; lost *= 2) {
@@ -371,9 +373,7 @@ public final class SecondsTermTest {
         check.due("motor(0, 5): another phase each second", bay.motor(0, 5), 4);
     }
 
-    @Sentence(of = "SECONDS", says = "Otherwise, if it is running, a phase is lost (whichever it is), and this is the third second "
-            + "of this one behind the other (as this point finds it each time; a loss that is mended and comes again between "
-            + "two seconds goes on), it trips (for the reason 4).")
+    @Sentence(of = "SECONDS", says = TRIPS_FOR_PHASES)
     static void mendedBetweenTwoSeconds(Check check) {
         StarterBay calls = Bays.running(60000);
         calls.losePhases(0, 1);
@@ -390,9 +390,7 @@ public final class SecondsTermTest {
         check.due("motor(0, 5) by items of one second", items.motor(0, 5), 4);
     }
 
-    @Sentence(of = "SECONDS", says = "Otherwise, if it is running, a phase is lost (whichever it is), and this is the third second "
-            + "of this one behind the other (as this point finds it each time; a loss that is mended and comes again between "
-            + "two seconds goes on), it trips (for the reason 4).")
+    @Sentence(of = "SECONDS", says = TRIPS_FOR_PHASES)
     static void mendedForASecond(Check check) {
         for (int ahead = 1; ahead <= 2; ahead++) {
             StarterBay bay = Bays.running(60000);
@@ -408,9 +406,7 @@ public final class SecondsTermTest {
         }
     }
 
-    @Sentence(of = "SECONDS", says = "Otherwise, if it is running, a phase is lost (whichever it is), and this is the third second "
-            + "of this one behind the other (as this point finds it each time; a loss that is mended and comes again between "
-            + "two seconds goes on), it trips (for the reason 4).")
+    @Sentence(of = "SECONDS", says = TRIPS_FOR_PHASES)
     static void onlySecondsOfRunningCount(Check check) {
         StarterBay bay = Bays.running(60000);
         bay.losePhases(0, 1);
@@ -433,9 +429,7 @@ public final class SecondsTermTest {
         check.due("motor(0, 5) in the second one behind a reset", bay.motor(0, 5), 3);
     }
 
-    @Sentence(of = "SECONDS", says = "Otherwise, if it is running, a phase is lost (whichever it is), and this is the third second "
-            + "of this one behind the other (as this point finds it each time; a loss that is mended and comes again between "
-            + "two seconds goes on), it trips (for the reason 4).")
+    @Sentence(of = "SECONDS", says = TRIPS_FOR_PHASES)
     static void heatIsAheadOfPhases(Check check) {
         // 48 + 44 - 3, + 44 - 5, + 44 - 6 = 166 in the third second.
         for (int limit = 165; limit <= 166; limit++) {

@@ -1,5 +1,16 @@
 /** The sentences under TIMETABLE. */
 public final class TimetableTermTest {
+    private static final String VALUES = "The time T has 1 to 4 digits, without zeros in front (unless it is the single digit "
+            + "0), and is not less than the time of the item ahead; M and P are digits from 0 to 7; B is 0 or 1.";
+    private static final String COUNTED = "The times are counted from the time at which the timetable is read: an item is due "
+            + "when so many seconds have passed.";
+    private static final String REFUSED = "An item whose call would return an error is not carried out, and counts as refused.";
+    private static final String FAULT = "The fault of the text is the index, from 0, of the first character of a word or number "
+            + "(what stands up to the next blank, \";\" or the end of the text) that is not one of these at its place (if it is "
+            + "empty, of what stands there instead), or of a blank or \";\" that stands where the other one, or the end, has to "
+            + "be; or the length of the text, if all before is right and it ends too early (the empty text does, and one that "
+            + "ends with \";\").";
+
     public static void main(String[] args) {
         Check.all(TimetableTermTest.class);
     }
@@ -145,8 +156,7 @@ public final class TimetableTermTest {
         return bay;
     }
 
-    @Sentence(of = "TIMETABLE", says = "The time T has 1 to 4 digits, without zeros in front (unless it is the single digit 0), "
-            + "and is not less than the time of the item ahead; M and P are digits from 0 to 7; B is 0 or 1.")
+    @Sentence(of = "TIMETABLE", says = VALUES)
     static void theTime(Check check) {
         String[] good = {"0", "1", "9", "10", "99", "100", "999", "1000", "9999"};
         for (String time : good) {
@@ -163,8 +173,7 @@ public final class TimetableTermTest {
         }
     }
 
-    @Sentence(of = "TIMETABLE", says = "The time T has 1 to 4 digits, without zeros in front (unless it is the single digit 0), "
-            + "and is not less than the time of the item ahead; M and P are digits from 0 to 7; B is 0 or 1.")
+    @Sentence(of = "TIMETABLE", says = VALUES)
     static void notLessThanTheTimeAhead(Check check) {
         right(check, "10 fan 1;10 fan 0", 2);
         right(check, "9 fan 1;10 fan 0", 2);
@@ -180,8 +189,7 @@ public final class TimetableTermTest {
         check.due("read anew", Bays.read(bay, "3 fan 1"), 1);
     }
 
-    @Sentence(of = "TIMETABLE", says = "The time T has 1 to 4 digits, without zeros in front (unless it is the single digit 0), "
-            + "and is not less than the time of the item ahead; M and P are digits from 0 to 7; B is 0 or 1.")
+    @Sentence(of = "TIMETABLE", says = VALUES)
     static void theNumbers(Check check) {
         for (int digit = 0; digit <= 9; digit++) {
             if (digit <= 7) {
@@ -210,12 +218,6 @@ public final class TimetableTermTest {
             fault(check, "0 fan " + number, 6);
         }
     }
-
-    private static final String FAULT = "The fault of the text is the index, from 0, of the first character of a word or number "
-            + "(what stands up to the next blank, \";\" or the end of the text) that is not one of these at its place (if it is "
-            + "empty, of what stands there instead), or of a blank or \";\" that stands where the other one, or the end, has to "
-            + "be; or the length of the text, if all before is right and it ends too early (the empty text does, and one that "
-            + "ends with \";\").";
 
     @Sentence(of = "TIMETABLE", says = FAULT)
     static void faultOfAWord(Check check) {
@@ -301,8 +303,7 @@ public final class TimetableTermTest {
         check.due("count(10)", later.count(10), 0);
     }
 
-    @Sentence(of = "TIMETABLE", says = "The times are counted from the time at which the timetable is read: an item is due when "
-            + "so many seconds have passed.")
+    @Sentence(of = "TIMETABLE", says = COUNTED)
     static void countedFromTheReading(Check check) {
         int[] clocks = {0, 1, 59};
         for (int clock : clocks) {
@@ -322,8 +323,7 @@ public final class TimetableTermTest {
         }
     }
 
-    @Sentence(of = "TIMETABLE", says = "The times are counted from the time at which the timetable is read: an item is due when "
-            + "so many seconds have passed.")
+    @Sentence(of = "TIMETABLE", says = COUNTED)
     static void theLatestTime(Check check) {
         StarterBay bay = new StarterBay();
         bay.pass(60);
@@ -339,8 +339,7 @@ public final class TimetableTermTest {
     }
 
     // {the mode of the motor 0, the item, whether it is refused}
-    @Sentence(of = "TIMETABLE",
-            says = "An item whose call would return an error is not carried out, and counts as refused.")
+    @Sentence(of = "TIMETABLE", says = REFUSED)
     static void refusedItems(Check check) {
         String[][] cases = {{"0", "start 1", "1"}, {"0", "stop 1", "1"}, {"0", "lose 1 0", "1"}, {"0", "lose 7 7", "1"},
             {"0", "reset 1", "1"}, {"1", "start 0", "1"}, {"2", "start 0", "1"}, {"3", "start 0", "1"}, {"4", "start 0", "1"},
@@ -360,8 +359,7 @@ public final class TimetableTermTest {
     }
 
     // A timetable whose only item is refused is like one whose only item is carried out to no effect.
-    @Sentence(of = "TIMETABLE",
-            says = "An item whose call would return an error is not carried out, and counts as refused.")
+    @Sentence(of = "TIMETABLE", says = REFUSED)
     static void refusedItemsAreNotCarriedOut(Check check) {
         String[] items = {"0 start 0", "0 start 7", "0 stop 1", "0 stop 7", "0 reset 0", "0 reset 2", "0 reset 7", "0 lose 7 1"};
         String[] apart = {"count(8)", "count(10)", "count(17)"};

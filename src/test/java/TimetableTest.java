@@ -1,5 +1,8 @@
 /** Promises 11 to 13. */
 public final class TimetableTest {
+    private static final String RETURNS_ITEMS = "Returns the number of its items; -100 minus the fault of the text if it has "
+            + "one (which is an error).";
+
     public static void main(String[] args) {
         Check.all(TimetableTest.class);
     }
@@ -98,8 +101,7 @@ public final class TimetableTest {
         }, StarterBay::readTimetable, 3);
     }
 
-    @Sentence(of = "Promise 13",
-            says = "Returns the number of its items; -100 minus the fault of the text if it has one (which is an error).")
+    @Sentence(of = "Promise 13", says = RETURNS_ITEMS)
     static void returnsTheNumberOfItsItems(Check check) {
         StringBuilder text = new StringBuilder("0 fan 0");
         for (int items = 1; items <= 10; items++) {
@@ -111,8 +113,7 @@ public final class TimetableTest {
         check.due("count(17)", bay.count(17), 80);
     }
 
-    @Sentence(of = "Promise 13",
-            says = "Returns the number of its items; -100 minus the fault of the text if it has one (which is an error).")
+    @Sentence(of = "Promise 13", says = RETURNS_ITEMS)
     static void aFaultChangesNothing(Check check) {
         String[] texts = {"", ";", "7 start 5;8 start 6;9 start", "0 fan 1;0 fan 2", "0 fan 1;", "1 fan 1;0 fan 0"};
         int[] places = {0, 0, 27, 14, 8, 8};

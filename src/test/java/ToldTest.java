@@ -1,5 +1,7 @@
 /** Promises 17 to 22. */
 public final class ToldTest {
+    private static final String RETURNS_MOTOR = "Returns the motor there; BAD_VALUE if place is negative; NONE if there are not "
+            + "so many.";
     private static final String MOTOR = "`what`: 0 for the rated current, 1 the ramp, 2 the factor, 3 the limit of its heat, "
             + "4 the need, 5 the mode, 6 the heat that it holds, 7 the lost phases, 8 the seconds of its ramp that have passed "
             + "(NONE if it is not starting), 9 the seconds for which it has waited (NONE if it is not waiting), 10 what it draws "
@@ -165,7 +167,7 @@ public final class ToldTest {
     }
 
     @Sentence(of = "Promise 19", says = {"`place`: a place in the queue, from 0",
-        "Returns the motor there; BAD_VALUE if place is negative; NONE if there are not so many."})
+        RETURNS_MOTOR})
     static void queue(Check check) {
         for (int waiting = 0; waiting <= 8; waiting++) {
             StarterBay bay = new StarterBay();
@@ -184,7 +186,7 @@ public final class ToldTest {
     }
 
     @Sentence(of = "Promise 19", says = {"`place`: a place in the queue, from 0",
-        "Returns the motor there; BAD_VALUE if place is negative; NONE if there are not so many."})
+        RETURNS_MOTOR})
     static void queueOfDifferentNeeds(Check check) {
         StarterBay bay = new StarterBay();
         Bays.addSmall(bay, 8);
