@@ -857,7 +857,7 @@ public final class StarterBay {
         }
 
         void add(int newTime, int newMotor, int newKind) {
-            int place = total % MOST_EVENTS;
+            int place = Math.floorMod(total, MOST_EVENTS);
             time[place] = newTime;
             motor[place] = newMotor;
             kind[place] = newKind;
@@ -868,7 +868,7 @@ public final class StarterBay {
             if (back < 0 || back >= Math.min(total, MOST_EVENTS)) {
                 return NONE;
             }
-            int place = (total - 1 - back) % MOST_EVENTS;
+            int place = Math.floorMod(total - 1 - back, MOST_EVENTS);
             switch (what) {
                 case 0: return time[place];
                 case 1: return motor[place];

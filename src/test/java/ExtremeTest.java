@@ -1,3 +1,5 @@
+import java.lang.reflect.Field;
+
 /** No call may throw or change anything for arguments that are far out of range, in any state. */
 public final class ExtremeTest {
     private static final int[] FAR = {Integer.MIN_VALUE, Integer.MIN_VALUE + 1, -1000, -1, 18, 31, 80, 70000,
@@ -18,6 +20,34 @@ public final class ExtremeTest {
         }
         Bays.read(full, "0 start 7;9999 lose 7 7");
         all(check, full);
+    }
+
+    // Rule 7 of LANGUAGE.md asks for every state: no run of a test is long enough to get there by calls.
+    static void moreEventsThanANumberHolds(Check check) throws ReflectiveOperationException {
+        StarterBay bay = new StarterBay();
+        Bays.addSmall(bay, 1);
+        Object events = inside(bay, "now", "events");
+        Field total = field(events, "total");
+        total.setInt(events, Integer.MAX_VALUE - 1);
+        for (int round = 0; round < 20; round++) {
+            check.due("request(0)", bay.request(0), 0);
+            check.due("stop(0)", bay.stop(0), 1);
+            check.yes("event(0, 2) is told, or there is none", bay.event(0, 2) == 3 || bay.event(0, 2) == Bays.N);
+        }
+    }
+
+    private static Object inside(Object from, String... names) throws ReflectiveOperationException {
+        Object found = from;
+        for (String name : names) {
+            found = field(found, name).get(found);
+        }
+        return found;
+    }
+
+    private static Field field(Object from, String name) throws ReflectiveOperationException {
+        Field found = from.getClass().getDeclaredField(name);
+        found.setAccessible(true);
+        return found;
     }
 
     private static void all(Check check, StarterBay bay) {
